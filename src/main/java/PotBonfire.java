@@ -506,23 +506,23 @@ public final class PotBonfire {
         }
     }
 
-    /** What the POTS feel of each MINUTE of a fire: rows of CELLS. */
+    /**
+     * What the POTS feel of each MINUTE of a fire: rows of CELLS. HEAT and whether a POT comes out
+     * BLACK there share a number, since these rows are most of what an object holds.
+     */
     private static final class Air {
-        private final int[] heat = new int[MINUTES_MOST * CELLS_MOST];
-        private final boolean[] blackens = new boolean[MINUTES_MOST * CELLS_MOST];
+        private final int[] felt = new int[MINUTES_MOST * CELLS_MOST];
 
-        private void put(int t, int c, int hot, boolean isBlackening) {
-            int at = place(t, c);
-            heat[at] = hot;
-            blackens[at] = isBlackening;
+        private void put(int t, int c, int heat, boolean blackens) {
+            felt[place(t, c)] = 2 * heat + oneIf(blackens);
         }
 
         private int heatAt(int t, int c) {
-            return heat[place(t, c)];
+            return felt[place(t, c)] / 2;
         }
 
         private boolean blackensAt(int t, int c) {
-            return blackens[place(t, c)];
+            return felt[place(t, c)] % 2 == 1;
         }
 
         private static int place(int t, int c) {

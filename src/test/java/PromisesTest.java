@@ -142,13 +142,21 @@ public final class PromisesTest {
         tell(x, "w6,5;p5,4,1,1,1,1;");
         due(5, "lay()", x.lay(), 30);
         due(5, "POT in the last CELL", x.pot(0, 0), 29);
-        due(5, "what was there is gone", x.cell(5, 1) + x.cell(5, 3) + x.cell(3, 4), 0);
+        for (int c = 0; c < 30; c++) {
+            due(5, "what was there is gone", x.cell(c, 1) + x.cell(c, 2) + x.cell(c, 3) + x.cell(c, 4), 0);
+        }
         due(5, "MINUTE 0", x.count(3), 0);
         due(5, "no SPOTS", x.count(4), 0);
         due(5, "nothing KEPT", x.count(5), 0);
         due(5, "THE TEXT stays", x.count(2), 18);
         due(5, "back()", x.back(), NO);
         due(5, "it can be laid again", x.lay(), 30);
+        tell(x, "w2,2;k0,1,1;k1,1,1;k2,1,1;l30;h30,1;d10,10;v9;");
+        x.lay();
+        tell(x, "c0,0,0,99;o0,0;");
+        due(5, "4 by 3 again without w", x.lay(), 12);
+        x.minute(0);
+        due(5, "what is so without ITEMS again", x.cell(0, 0), 109);
         // beyond the HEAP: told, but counted nowhere
         due(5, "lay() with CELLS beyond", laid("w2,2;c5,4,0,9;o2,0;s0,2;").lay(), 4);
     }
@@ -294,6 +302,47 @@ public final class PromisesTest {
         due(8, "BLACK by FUEL", smoke.pot(0, 5), 2);
     }
 
+    private static int warmest(PotBonfire x, int minutes) {
+        int top = 0;
+        for (int t = 0; t < minutes; t++) {
+            x.minute(0);
+            top = Math.max(top, x.pot(0, 1));
+        }
+        return top;
+    }
+
+    private static void promise8Edges() {
+        String pot = "p0,0,3,0,0,1;";
+        PotBonfire red = laid(LIT + "k0,9,18;l23;d300,300;" + fuels(0, 123) + pot);
+        due(8, "500 warm at most", warmest(red, 20), 500);
+        due(8, "a colour by 500", red.pot(0, 5), 1);
+        PotBonfire pale = laid(LIT + "k0,4,38;l17;d300,300;" + fuels(0, 36) + pot);
+        due(8, "499 warm at most", warmest(pale, 20), 499);
+        due(8, "no colour by 499", pale.pot(0, 5), 0);
+        PotBonfire late = burnt(32, LIT + "k0,9,39;l7;d300,300;" + fuels(0, 78) + "p0,0,2,0,0,1;");
+        due(8, "500 warm as it cools", late.pot(0, 1), 500);
+        due(8, "500 is not below 500", late.pot(0, 5), 0);
+        late.minute(0);
+        due(8, "467 is", late.pot(0, 5), 1);
+        for (int left = 0; left <= 1; left++) {
+            PotBonfire x = burnt(30, LIT + "k0,1,40;l1;d300,300;" + fuels(0, 49 + left) + "p0,0,1,0,0,1;");
+            for (int t = 30; t < 49; t++) x.minute(9);
+            due(8, "warmth", x.pot(0, 1), 489);
+            due(8, "FUEL that is left", x.cell(0, 1), left);
+            due(8, "RED without, BLACK by 1 of FUEL", x.pot(0, 5), 1 + left);
+        }
+        // cooled by 61 in MINUTE 10; 60 would be D without an ITEM
+        String dunting = LIT + "k0,14,43;l12;h50,1;" + fuels(0, 45) + pot;
+        due(8, "61 is more than 60", burnt(11, dunting).pot(0, 4), 4);
+        due(8, "61 is not more than 61", burnt(11, dunting + "d61,90;").pot(0, 4), 0);
+        String once = LIT + "k0,17,52;l17;h84,1;" + fuels(0, 34) + "p0,0,2,0,0,1;";
+        due(8, "hardened for 1 MINUTE", burnt(6, once).pot(0, 3), 1);
+        due(8, "DUNTED by that", burnt(7, once).pot(0, 4), 4);
+        String quick = LIT + fuels(0, 99) + "p0,0,5,0,0,1;";
+        due(8, "181 times 5 is above 900", burnt(1, quick + "k0,20,59;").pot(0, 4), 3);
+        due(8, "178 times 5 is not", burnt(1, quick + "k0,20,58;").pot(0, 4), 5);
+    }
+
     private static void promises9to11() {
         PotBonfire x = laid("w2,2;c0,0,2,199;");
         due(9, "fuel(0, 0)", x.fuel(0, 0), BAD);
@@ -400,6 +449,7 @@ public final class PromisesTest {
         due(17, "the least GRIT", y.grit(0, 1, 0), 3);
         due(17, "SOFT by any", y.grit(1, 1, 0), NONE);
         due(17, "none", laid(HOT + fuels(0, 11) + "p0,0,1,10,0,19;").grit(0, 1, 0), NONE);
+        due(17, "the greatest GRIT", laid(HOT + fuels(0, 11) + "p0,0,1,10,0,20;").grit(0, 1, 0), 9);
         due(17, "a dry one", laid(HOT + fuels(0, 11) + "p0,0,1,0,7,19;").grit(0, 1, 0), 0);
         due(17, "its own stays", y.run(1, 0, 1), 2);
         int[][] bad = {{-1, 0, 0}, {2, 0, 0}, {0, -1, 0}, {0, 241, 0}, {0, 0, -1}, {0, 0, 10}};
@@ -475,6 +525,9 @@ public final class PromisesTest {
         y.take(1);
         due(23, "a POT that is not whole", y.black(1, 8, 0), NONE);
         due(23, "it is bare as it was", y.cell(0, 4), 0);
+        y.cover(0, true);
+        for (int t = 0; t < 20; t++) y.minute(0);
+        due(23, "it is BLACK and GOOD", y.black(0, 0, 0), 0);
         int[][] badBlack = {{-1, 0, 0}, {2, 0, 0}, {0, -1, 0}, {0, 241, 0}, {0, 0, -1}, {0, 0, 10}};
         for (int[] b : badBlack) due(23, "a wrong number", y.black(b[0], b[1], b[2]), BAD);
     }
@@ -574,6 +627,7 @@ public final class PromisesTest {
         promise8Pots();
         promise8Struck();
         promise8Cooling();
+        promise8Edges();
         promises9to11();
         promises12and13();
         promises14and15();
