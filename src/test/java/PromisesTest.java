@@ -110,6 +110,13 @@ public final class PromisesTest {
         for (int i = 0; i < 6; i++) pots.append("p0,0,1,0,0,1;");
         faultDue(pots.toString(), NONE);
         faultDue(pots + "v1;p0,0,1,0,0,1;", 6 * 13 + 3);
+        StringBuilder longest = new StringBuilder();
+        for (int i = 0; i < 166; i++) longest.append("l7;");
+        faultDue(longest + "l7", 498);
+        faultDue(longest + "l,", 498);
+        faultDue(longest + "l", 498);
+        faultDue(longest.substring(3) + "w2,2;", NONE);
+        faultDue(longest.substring(3) + "v0001", 495);
         PotBonfire x = laid("w3,2;");
         tell(x, "w2,2;x");
         due(4, "fault()", x.fault(), 5);
@@ -539,6 +546,11 @@ public final class PromisesTest {
         due(24, "x is 1: WIND 1", x.evening(0, 1), 0);
         due(24, "WIND 0", x.evening(3, 1), 1);
         due(24, "no WIND at all", laid(hot).evening(0, 1), 1);
+        tell(x, hot);
+        x.lay();
+        due(24, "no WIND again without v", x.evening(0, 1), 1);
+        tell(x, hot + "v1;");
+        x.lay();
         due(24, "all is as it was", x.count(3) + x.pot(0, 3), 0);
         int[][] bad = {{-1, 0}, {10000, 0}, {0, -1}, {0, 241}};
         for (int[] b : bad) due(24, "a wrong number", x.evening(b[0], b[1]), BAD);
