@@ -1,53 +1,9 @@
 /** Each promise with answers worked out by hand from the document: ordinary, at the edges, wrong numbers. */
-public final class PromisesTest {
-    private static final int BAD = -1, NO = -2, FULL = -3, NONE = -4;
-
-    /** Four cells of 2 by 2 burn alike, so no HEAT goes over. */
-    private static final String LIT = "w2,2;o0,0;o1,0;o0,1;o1,1;";
+public final class PromisesTest extends HeapTest {
     /** Behind a MINUTE without WIND: HEAT 20 + 583 - 23 = 580, a POT of T 1 is 300 warm. */
     private static final String HOT = LIT + "k0,11,53;l4;d300,300;h30,1;";
     /** Behind a MINUTE without WIND: HEAT 20 + 203 - 2 = 221, a POT of T 1 is 120 warm. */
     private static final String MILD = LIT + "k0,7,29;l1;d300,300;";
-
-    private static int wrong = 0;
-
-    private static void due(int promise, String what, int got, int want) {
-        if (got != want) {
-            wrong++;
-            System.out.println("promise " + promise + ": " + what + " answered " + got + ", due is " + want);
-        }
-    }
-
-    private static String fuels(int kind, int much) {
-        String rest = "," + kind + "," + much + ";";
-        return "c0,0" + rest + "c1,0" + rest + "c0,1" + rest + "c1,1" + rest;
-    }
-
-    private static PotBonfire told(String text) {
-        PotBonfire x = new PotBonfire();
-        tell(x, text);
-        return x;
-    }
-
-    private static void tell(PotBonfire x, String text) {
-        x.wipe();
-        for (int i = 0; i < text.length(); i++) x.write(1, text.charAt(i));
-    }
-
-    private static PotBonfire laid(String text) {
-        PotBonfire x = told(text);
-        if (x.lay() < 0) {
-            wrong++;
-            System.out.println("not laid: " + text);
-        }
-        return x;
-    }
-
-    private static PotBonfire burnt(int minutes, String text) {
-        PotBonfire x = laid(text);
-        for (int t = 0; t < minutes; t++) x.minute(0);
-        return x;
-    }
 
     private static void faultDue(String text, int want) {
         due(4, "fault() of " + text, told(text).fault(), want);
@@ -307,15 +263,6 @@ public final class PromisesTest {
         due(8, "it was 500 warm", top >= 500 ? 1 : 0, 1);
         due(8, "FUEL is left", smoke.cell(0, 1), 159);
         due(8, "BLACK by FUEL", smoke.pot(0, 5), 2);
-    }
-
-    private static int warmest(PotBonfire x, int minutes) {
-        int top = 0;
-        for (int t = 0; t < minutes; t++) {
-            x.minute(0);
-            top = Math.max(top, x.pot(0, 1));
-        }
-        return top;
     }
 
     private static void promise8Edges() {
@@ -649,7 +596,6 @@ public final class PromisesTest {
         promises24to26();
         promises27to29();
         keptHeat();
-        System.out.println(wrong == 0 ? "all promises are kept" : wrong + " answers are not as due");
-        if (wrong != 0) System.exit(1);
+        end("all promises are kept");
     }
 }
