@@ -1,4 +1,5 @@
 import java.util.Arrays;
+import java.util.List;
 import java.util.function.Supplier;
 import java.util.function.ToIntFunction;
 
@@ -71,6 +72,13 @@ public final class CallEdgesTest extends HeapTest {
         return laid("w6,5;p0,0,1,9,0,9;p1,0,1,9,0,9;p2,0,1,9,0,9;p3,0,1,9,0,9;p4,0,1,9,0,9;p5,4,1,9,0,9;");
     }
 
+    private static PotBonfire smallBehindLarge() {
+        PotBonfire x = full();
+        tell(x, "w2,2;p1,1,1,0,0,1;");
+        x.lay();
+        return x;
+    }
+
     private static void eachNumber(String heap, Supplier<PotBonfire> made, Call call) {
         for (int i = 0; i < call.plain.length; i++) {
             int low = call.bounds[2 * i], high = call.bounds[2 * i + 1];
@@ -97,9 +105,11 @@ public final class CallEdgesTest extends HeapTest {
         for (Call call : calls(6, 5)) eachNumber("busy", CallEdgesTest::busy, call);
         for (Call call : calls(30, 6)) eachNumber("30 CELLS, 6 POTS", CallEdgesTest::full, call);
         for (Call call : calls(4, 1)) eachNumber("4 CELLS, 1 POT", () -> laid("w2,2;p1,1,1,0,0,1;"), call);
+        for (Call call : calls(4, 1)) eachNumber("4 CELLS behind 30", CallEdgesTest::smallBehindLarge, call);
         PotBonfire bare = new PotBonfire();
+        List<String> ofPots = List.of("pot", "take", "of", "grit", "lies", "lies one", "black", "ten", "sherd");
         for (Call call : calls(12, 1)) {
-            boolean needsPots = "pot take of grit lies lies one black ten sherd".contains(call.name);
+            boolean needsPots = ofPots.contains(call.name);
             due("without POTS " + call.told(call.plain), call.asked.of(bare, call.plain) == BAD ? 1 : 0, needsPots ? 1 : 0);
         }
         due("a call with two wrong numbers", busy().run(241, 10, 2), BAD);
@@ -192,6 +202,19 @@ public final class CallEdgesTest extends HeapTest {
         PotBonfire x = busy();
         tell(x, text);
         return x;
+    }
+
+    private static void laidAnew() {
+        says("lay(): LAID: how many CELLS; MINUTE 0, no SPOTS, nothing KEPT; THE TEXT stays");
+        PotBonfire x = twiceKept();
+        int[] before = {6, 5, 37, 3, 4, 2}, behind = {4, 1, 37, 0, 0, 0};
+        for (int what = 0; what <= 5; what++) due("count(" + what + ") ahead of it", x.count(what), before[what]);
+        due("lay()", x.lay(), 4);
+        for (int what = 0; what <= 5; what++) due("count(" + what + ") behind it", x.count(what), behind[what]);
+        dueText("nothing of old is left", fate(x), fate(laid("w2,2;c0,0,1,30;o0,0;p1,1,2,20,3,9;l5;")));
+        x.wipe();
+        due("lay() of an empty one", x.lay(), 12);
+        dueText("nothing of old is left", fate(x), fate(new PotBonfire()));
     }
 
     /** 12 CELLS, with so many SPOTS from the last one on. */
@@ -359,6 +382,7 @@ public final class CallEdgesTest extends HeapTest {
         refusedLeavesAll();
         askingLeavesAll();
         noAsThingsStand();
+        laidAnew();
         fullUp();
         order();
         bytesOfLongs();

@@ -211,6 +211,9 @@ public final class MinuteEdgesTest extends HeapTest {
             due("warmth", x.pot(0, 1), warm[i]);
             due("WATER, " + warm[i] + " warm", x.pot(0, 2), left[i]);
         }
+        PotBonfire short99 = burnt(1, alike(8, 13, 1, 99) + "p0,0,1,50,8,99;");
+        due("warmth", short99.pot(0, 1), 71);
+        due("99 by 100 is none", short99.pot(0, 2), 50);
         due("at 20 warm", burnt(9, "w2,2;p0,0,1,50,9,99;").pot(0, 2), 50);
         // 120 warm: 10 times 60 by 100
         int[] water = {0, 1, 5, 6, 7}, then = {0, 0, 0, 0, 1};
@@ -258,6 +261,19 @@ public final class MinuteEdgesTest extends HeapTest {
         due("BURST", late.pot(1, 4), 1);
         late.spot(4);
         due("laid beside it behind that MINUTE", late.lies(1, 3, 0, -1), 1);
+        PotBonfire taken = laid(hot + "p0,0,1,0,0,1;p1,0,1,0,0,1;p5,0,1,99,0,1;");
+        taken.take(0);
+        taken.minute(0);
+        due("one BURST far off", taken.pot(2, 4), 1);
+        due("the one beside it is taken out, not BURST", taken.pot(1, 4), 5);
+        // POT 1 BURST in the first MINUTE; POT 2 does so in the second, as POT 0 lies beside POT 1
+        String two = hot + "w6,5;c0,4,0,199;o0,4;h30,3;p2,2,1,0,0,1;p5,0,1,99,0,1;p0,4,9,9,0,30;";
+        PotBonfire both = laid(two);
+        due("lost by 1", both.run(1, 0, 1), 1);
+        due("lost by 2", both.run(2, 0, 1), 2);
+        both.minute(0);
+        both.spot(4);
+        due("neither is beside it in its MINUTE", both.lies(1, 5, 0, -1), 1);
     }
 
     private static void struckInPlaceOf() {

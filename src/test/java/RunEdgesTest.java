@@ -30,6 +30,28 @@ public final class RunEdgesTest extends HeapTest {
         due("hardened in all", later.of(180, 0, 0, 3), 235);
     }
 
+    private static void noMinuteBehindOne() {
+        says("A RUN is of n MINUTES (0 to 240)");
+        PotBonfire x = laid(HOT + DRY_POT + "p1,1,1,99,0,1;h30,1;");
+        x.take(1);
+        x.spot(0);
+        int[] byOne = {1, 0, 1, 0, 0, 100, 1, 1, 10}, byNone = {0, 5, 0, 0, NONE, NONE, 0, 0, 0};
+        for (int n = 1; n >= 0; n--) {
+            int[] want = n == 1 ? byOne : byNone;
+            due("run of " + n, x.run(n, 0, 0), want[0]);
+            due("of of " + n, x.of(n, 0, 0, 0), want[1]);
+            due("hardened by " + n, x.of(n, 0, 0, 3), want[2]);
+            due("drying of " + n, x.drying(n, 0), want[3]);
+            due("grit of " + n, x.grit(0, n, 0), want[4]);
+            due("enough of " + n, x.enough(1, n, 0), want[5]);
+            due("lies of " + n, x.lies(1, n, 0, -1), want[6]);
+            due("evening of " + n, x.evening(0, n), want[7]);
+            due("ten of " + n, x.ten(0, n, 0), want[8]);
+            due("rake of " + n, x.rake(n, 0), n);
+            due("black of " + n, x.black(0, n, 0), NONE);
+        }
+    }
+
     private static void runLikeMinutes() {
         says("how many are GOOD then; of LOSS 1 to 4; of a POT its LOSS, its colour, how long it hardened in all");
         String text = alike(20, 60, 30, 60) + "h40,3;d140,45;p0,0,1,0,0,1;p1,0,1,9,0,1;p0,1,9,0,0,1;p1,1,2,0,0,1;";
@@ -74,6 +96,10 @@ public final class RunEdgesTest extends HeapTest {
             due("behind " + n + ", though it BURST", x.of(n, 0, 1, 1), top);
         }
         due("it was greatest behind 4", x.of(4, 0, 0, 1), top);
+        PotBonfire apart = laid(ONE_HOT + "p3,2,1,0,0,1;p0,0,1,0,0,1;");
+        due("of a CELL far off", apart.of(1, 0, 0, 1), 20);
+        due("of CELL 0: 1220 less 240 less 76", apart.of(1, 0, 1, 1), 904);
+        due("of a CELL far off, no MINUTE", apart.of(0, 0, 0, 1), 20);
         PotBonfire cools = burnt(4, alike(6, 60, 4, 24) + CALM + DRY_POT);
         due("now is the greatest", cools.of(240, 9, 0, 1), top);
         burn(cools, 1, 9);
@@ -125,6 +151,9 @@ public final class RunEdgesTest extends HeapTest {
         due("one that SPLITS does not BURST", laid(alike(4, 51, 1, 4) + "d60,10;p0,0,1,99,0,1;").drying(1, 0), 0);
         PotBonfire burst = burnt(1, MILD + "p0,0,1,99,0,1;");
         due("it BURST ahead of the RUN", burst.drying(240, 0), 0);
+        PotBonfire asked = laid(MILD + "p0,0,1,99,0,1;");
+        due("a MINUTE", asked.drying(1, 0), NONE);
+        due("no MINUTE, asked behind that", asked.drying(0, 0), 0);
         PotBonfire taken = laid(MILD + "p0,0,1,99,0,1;");
         taken.take(0);
         due("it is taken out", taken.drying(240, 0), 0);
@@ -437,6 +466,7 @@ public final class RunEdgesTest extends HeapTest {
 
     public static void main(String[] args) {
         runLengths();
+        noMinuteBehindOne();
         runLikeMinutes();
         greatestHeat();
         drying();

@@ -241,6 +241,11 @@ public final class TextEdgesTest extends HeapTest {
         due("the last KIND", twice.cell(5, 2), 1);
         due("the last FUEL", twice.cell(9, 1), 6);
         due("the last KIND", twice.cell(9, 2), 2);
+        PotBonfire bare = laidAnew("c1,1,2,199;o1,1;s1,1;p1,1,1,0,0,1;", "v1;");
+        for (int what = 0; what <= 5; what++) due("without again: cell(5, " + what + ")", bare.cell(5, what), rest[what]);
+        PotBonfire faulty = wipedAndTold("c1,1,2,199;o1,1;s1,1;p1,1,1,0,0,1;x", "v1;");
+        faulty.lay();
+        for (int what = 0; what <= 5; what++) due("behind a FAULT: cell(5, " + what + ")", faulty.cell(5, what), rest[what]);
     }
 
     private static void beyond() {
